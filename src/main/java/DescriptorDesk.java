@@ -126,7 +126,7 @@ public final class DescriptorDesk {
         }
 
         int byteAt(int k) {
-            return k >= 0 && k < length && k < FILE_BYTES ? bytes[k] : 0;
+            return k >= 0 && k < FILE_BYTES ? bytes[k] : 0;
         }
 
         void put(int k, int b) {
@@ -150,27 +150,17 @@ public final class DescriptorDesk {
         private int rights = 0;
         private int holders = 0;
 
-        void beConsole() {
-            pipe = null;
-            file = null;
-            position = 0;
-            rights = READS | WRITES;
-        }
-
-        void beEnd(Pipe of, int right) {
-            pipe = of;
-            file = null;
-            position = 0;
-            rights = right;
-            of.addEnd(right);
-        }
-
-        void beFile(StoredFile of, int allowed) {
-            pipe = null;
-            file = of;
+        void begin(Pipe ofPipe, StoredFile ofFile, int allowed) {
+            pipe = ofPipe;
+            file = ofFile;
             position = 0;
             rights = allowed;
-            of.users++;
+            if (ofPipe != null) {
+                ofPipe.addEnd(allowed);
+            }
+            if (ofFile != null) {
+                ofFile.users++;
+            }
         }
 
         boolean has(int right) {
@@ -192,8 +182,6 @@ public final class DescriptorDesk {
             if (file != null) {
                 file.users--;
             }
-            pipe = null;
-            file = null;
         }
     }
 
@@ -226,7 +214,6 @@ public final class DescriptorDesk {
             for (int d = 0; d < DESCRIPTORS; d++) {
                 release(d);
             }
-            begin();
             condition = ABSENT;
         }
 
@@ -302,7 +289,7 @@ public final class DescriptorDesk {
         }
         Proc proc = procs[child];
         proc.begin();
-        console.beConsole();
+        console.begin(null, null, READS | WRITES);
         proc.hold(0, console);
         proc.hold(1, console);
         return child;
@@ -356,7 +343,7 @@ public final class DescriptorDesk {
         if (file == null || (how & EMPTIES) != 0) {
             opened.length = 0;
         }
-        opening.beFile(opened, how & ALL_RIGHTS);
+        opening.begin(null, opened, how & ALL_RIGHTS);
         proc.hold(d, opening);
         return d;
     }
@@ -371,8 +358,8 @@ public final class DescriptorDesk {
         if (reads < 0 || writes < 0 || reading == null || writing == null || made == null) {
             return FULL;
         }
-        reading.beEnd(made, READS);
-        writing.beEnd(made, WRITES);
+        reading.begin(made, null, READS);
+        writing.begin(made, null, WRITES);
         proc.hold(reads, reading);
         proc.hold(writes, writing);
         return reads + DESCRIPTORS * writes;
@@ -854,9 +841,9 @@ public final class DescriptorDesk {
 
     /** The processes that wait in vain, a bit each. */
     private int waitingInVain() {
-        // From all of them down, so that the most stay; a round that drops none is followed by none that does.
+        // From all of them down, so that the most stay; each round drops one at least, or none ever will.
         int vain = (1 << PROCESSES) - 1;
-        for (int round = 0; round <= PROCESSES; round++) {
+        for (int round = 0; round < PROCESSES; round++) {
             vain = vainAmong(vain);
         }
         return vain;

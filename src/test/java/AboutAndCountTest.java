@@ -176,6 +176,48 @@ public final class AboutAndCountTest {
         Expect.same("none", x.count(8), 0);
     }
 
+    private static void vainWithoutTheFirst() {
+        DescriptorDesk x = new DescriptorDesk();
+        x.spawn();
+        x.spawn();
+        x.pipe(1);
+        Expect.same("1 waits for itself", x.read(1, 2, 1), -6);
+        Expect.same("0 has nothing to do with it", x.count(8), 1);
+    }
+
+    /** An opening that was a file's is used again: nothing of it is seen. */
+    private static void openingsUsedAgain() {
+        DescriptorDesk x = new DescriptorDesk();
+        x.spawn();
+        x.open(0, 1, 11);
+        x.seek(0, 2, 5, 0);
+        x.close(0, 2);
+        Expect.same("another", x.open(0, 1, 3), 2);
+        row(x, 2, 3, 1, 0, 0, 3);
+        x.seek(0, 2, 5, 0);
+        x.close(0, 2);
+        x.spawn();
+        Expect.same("the console has no position", x.about(1, 0, 3), 0);
+        Expect.same("the console", x.about(1, 0, 0), 4);
+        x.exit(1);
+        x.open(0, 1, 3);
+        x.open(0, 1, 3);
+        x.seek(0, 2, 5, 0);
+        x.seek(0, 3, 5, 0);
+        x.close(0, 2);
+        x.close(0, 3);
+        x.pipe(0);
+        row(x, 2, 1, 1, 0, 0, 1);
+        row(x, 3, 2, 1, 0, 0, 2);
+        x.close(0, 2);
+        x.close(0, 3);
+        x.spawn();
+        row(x, 0, 4, 2, 0, 0, 3);
+        Expect.same("the console again", x.about(1, 0, 0), 4);
+        x.open(0, 1, 1);
+        row(x, 2, 3, 1, 0, 0, 1);
+    }
+
     public static void main(String[] args) {
         about();
         count();
@@ -183,6 +225,8 @@ public final class AboutAndCountTest {
         vainWithOneOutside();
         vainChain();
         vainWriters();
+        vainWithoutTheFirst();
+        openingsUsedAgain();
         Expect.finish();
     }
 }

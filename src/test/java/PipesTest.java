@@ -312,6 +312,10 @@ public final class PipesTest {
         x.close(0, 6);
         Expect.same("bad before full", x.dup(0, 6, -1), -1);
         Expect.same("free again", x.dup(0, 0, -1), 6);
+        x.close(0, 0);
+        Expect.same("0 is the least", x.dup(0, 2, -1), 0);
+        Expect.same("onto 0", x.dup(0, 3, 0), 0);
+        Expect.same("0 writes", x.about(0, 0, 0), 2);
     }
 
     private static void dupWakes() {

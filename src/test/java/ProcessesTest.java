@@ -96,6 +96,8 @@ public final class ProcessesTest {
         Expect.same("fork when all are there", x.fork(0), -4);
         x.exit(3);
         Expect.same("fork takes the least", x.fork(7), 3);
+        x.exit(0);
+        Expect.same("the least may be 0", x.fork(7), 0);
     }
 
     private static void forkOfNone() {
