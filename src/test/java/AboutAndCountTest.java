@@ -5,7 +5,7 @@ public final class AboutAndCountTest {
     private AboutAndCountTest() {
     }
 
-    private static void row(DescriptorDesk x, int d, int... due) {
+    private static void row(Desk x, int d, int... due) {
         for (int what = 0; what < due.length; what++) {
             Expect.same("about(0, " + d + ", " + what + ")", x.about(0, d, what), due[what]);
         }
@@ -13,7 +13,7 @@ public final class AboutAndCountTest {
 
     /** Promise 18. */
     private static void about() {
-        DescriptorDesk x = new DescriptorDesk();
+        Desk x = new Desk();
         x.spawn();
         x.pipe(0);
         x.open(0, 1, 15);
@@ -53,7 +53,7 @@ public final class AboutAndCountTest {
         Expect.same("held by one less", x.about(0, 2, 1), 1);
     }
 
-    private static void counts(DescriptorDesk x, int... due) {
+    private static void counts(Desk x, int... due) {
         for (int what = 0; what < due.length; what++) {
             Expect.same("count(" + what + ")", x.count(what), due[what]);
         }
@@ -61,7 +61,7 @@ public final class AboutAndCountTest {
 
     /** Promise 19. */
     private static void count() {
-        DescriptorDesk x = new DescriptorDesk();
+        Desk x = new Desk();
         x.spawn();
         x.pipe(0);
         x.pipe(0);
@@ -87,7 +87,7 @@ public final class AboutAndCountTest {
     }
 
     private static void vainRing() {
-        DescriptorDesk x = new DescriptorDesk();
+        Desk x = new Desk();
         x.spawn();
         x.pipe(0);
         x.pipe(0);
@@ -110,7 +110,7 @@ public final class AboutAndCountTest {
     }
 
     private static void vainWithOneOutside() {
-        DescriptorDesk x = new DescriptorDesk();
+        Desk x = new Desk();
         x.spawn();
         x.pipe(0);
         x.fork(0);
@@ -128,7 +128,7 @@ public final class AboutAndCountTest {
     }
 
     private static void vainChain() {
-        DescriptorDesk x = new DescriptorDesk();
+        Desk x = new Desk();
         x.spawn();
         x.pipe(0);
         x.pipe(0);
@@ -160,7 +160,7 @@ public final class AboutAndCountTest {
     }
 
     private static void vainWriters() {
-        DescriptorDesk x = new DescriptorDesk();
+        Desk x = new Desk();
         x.spawn();
         x.pipe(0);
         x.fork(0);
@@ -177,7 +177,7 @@ public final class AboutAndCountTest {
     }
 
     private static void vainWithoutTheFirst() {
-        DescriptorDesk x = new DescriptorDesk();
+        Desk x = new Desk();
         x.spawn();
         x.spawn();
         x.pipe(1);
@@ -187,7 +187,7 @@ public final class AboutAndCountTest {
 
     /** An opening that was a file's is used again: nothing of it is seen. */
     private static void openingsUsedAgain() {
-        DescriptorDesk x = new DescriptorDesk();
+        Desk x = new Desk();
         x.spawn();
         x.open(0, 1, 11);
         x.seek(0, 2, 5, 0);

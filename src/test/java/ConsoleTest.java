@@ -3,13 +3,13 @@ public final class ConsoleTest {
     private ConsoleTest() {
     }
 
-    private static DescriptorDesk deskWithOne() {
-        DescriptorDesk x = new DescriptorDesk();
+    private static Desk deskWithOne() {
+        Desk x = new Desk();
         x.spawn();
         return x;
     }
 
-    private static void typeAll(DescriptorDesk x, int... bytes) {
+    private static void typeAll(Desk x, int... bytes) {
         for (int b : bytes) {
             Expect.same("type " + b, x.type(b), 0);
         }
@@ -17,7 +17,7 @@ public final class ConsoleTest {
 
     /** Promise 15. */
     private static void type() {
-        DescriptorDesk x = new DescriptorDesk();
+        Desk x = new Desk();
         Expect.same("with no process", x.type(0), 0);
         Expect.same("the highest", x.type(255), 0);
         for (int b : new int[] {Integer.MIN_VALUE, -1, 256, Integer.MAX_VALUE}) {
@@ -44,7 +44,7 @@ public final class ConsoleTest {
     }
 
     private static void typeWakesAll() {
-        DescriptorDesk x = deskWithOne();
+        Desk x = deskWithOne();
         x.fork(0);
         x.spawn();
         x.spawn();
@@ -64,7 +64,7 @@ public final class ConsoleTest {
 
     /** Promise 7. */
     private static void read() {
-        DescriptorDesk x = deskWithOne();
+        Desk x = deskWithOne();
         Expect.same("n 0 of none", x.read(0, 0, 0), 0);
         Expect.same("ready", x.state(0, 0), 1);
         typeAll(x, 1, 2, 3);
@@ -83,7 +83,7 @@ public final class ConsoleTest {
     }
 
     private static void readToTheEnd() {
-        DescriptorDesk x = deskWithOne();
+        Desk x = deskWithOne();
         typeAll(x, 1, 2, 4, 3, 4, 4, 5, 4);
         Expect.same("n before the end", x.read(0, 0, 2), 2);
         Expect.same("it isn't looked at", x.about(0, 0, 2), 6);
@@ -103,7 +103,7 @@ public final class ConsoleTest {
     }
 
     private static void endElsewhere() {
-        DescriptorDesk x = deskWithOne();
+        Desk x = deskWithOne();
         x.pipe(0);
         x.write(0, 3, 0x010402L, 3);
         Expect.same("a pipe knows no end byte", x.read(0, 2, 8), 3);
@@ -117,7 +117,7 @@ public final class ConsoleTest {
 
     /** Promises 9 and 16. */
     private static void shown() {
-        DescriptorDesk x = deskWithOne();
+        Desk x = deskWithOne();
         Expect.same("none", x.shown(0), -1);
         Expect.same("n 0", x.write(0, 0, 65, 0), 0);
         Expect.same("none", x.shown(0), -1);

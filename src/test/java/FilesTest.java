@@ -5,13 +5,13 @@ public final class FilesTest {
     private FilesTest() {
     }
 
-    private static DescriptorDesk deskWithOne() {
-        DescriptorDesk x = new DescriptorDesk();
+    private static Desk deskWithOne() {
+        Desk x = new Desk();
         x.spawn();
         return x;
     }
 
-    private static void fill(DescriptorDesk x, int d, int eights) {
+    private static void fill(Desk x, int d, int eights) {
         for (int i = 0; i < eights; i++) {
             Expect.same("fill", x.write(0, d, 0x1122334455667788L, 8), 8);
         }
@@ -19,7 +19,7 @@ public final class FilesTest {
 
     /** Promise 5. */
     private static void open() {
-        DescriptorDesk x = deskWithOne();
+        Desk x = deskWithOne();
         Expect.same("missing", x.open(0, 5, 1), -2);
         Expect.same("missing, to empty", x.open(0, 5, 2 | 32), -2);
         Expect.same("nothing was made", x.count(4), 0);
@@ -49,7 +49,7 @@ public final class FilesTest {
     }
 
     private static void openWhichIsNoWay() {
-        DescriptorDesk x = deskWithOne();
+        Desk x = deskWithOne();
         x.open(0, 1, 9);
         for (int how = -70; how <= 140; how++) {
             int h = how;
@@ -74,7 +74,7 @@ public final class FilesTest {
     }
 
     private static void openWhenFull() {
-        DescriptorDesk x = deskWithOne();
+        Desk x = deskWithOne();
         for (int name = 1; name <= 6; name++) {
             Expect.same("make", x.open(0, name, 11), 2);
             fill(x, 2, 1);
@@ -103,7 +103,7 @@ public final class FilesTest {
     }
 
     private static void openWithoutOpening() {
-        DescriptorDesk x = deskWithOne();
+        Desk x = deskWithOne();
         x.spawn();
         x.spawn();
         for (int p = 0; p < 3; p++) {
@@ -120,7 +120,7 @@ public final class FilesTest {
 
     /** Promise 12. */
     private static void seek() {
-        DescriptorDesk x = deskWithOne();
+        Desk x = deskWithOne();
         x.open(0, 1, 11);
         fill(x, 2, 2);
         Expect.same("from 0", x.seek(0, 2, 5, 0), 5);
@@ -151,7 +151,7 @@ public final class FilesTest {
     }
 
     private static void seekOfOthers() {
-        DescriptorDesk x = deskWithOne();
+        Desk x = deskWithOne();
         x.pipe(0);
         for (int d : new int[] {Integer.MIN_VALUE, -1, 0, 1, 2, 3, 4, 7, 8, Integer.MAX_VALUE}) {
             Expect.same("seek of " + d, x.seek(0, d, 0, 0), -1);
@@ -165,7 +165,7 @@ public final class FilesTest {
 
     /** Promise 7. */
     private static void read() {
-        DescriptorDesk x = deskWithOne();
+        Desk x = deskWithOne();
         x.open(0, 1, 2 | 8);
         x.write(0, 2, 0x0102030405060708L, 8);
         x.write(0, 2, 0x090AL, 2);
@@ -192,7 +192,7 @@ public final class FilesTest {
 
     /** Promise 9. */
     private static void write() {
-        DescriptorDesk x = deskWithOne();
+        Desk x = deskWithOne();
         x.open(0, 1, 1 | 8);
         Expect.same("no right to write", x.write(0, 2, 1, 1), -1);
         Expect.same("no right, n 0", x.write(0, 2, 1, 0), -1);
@@ -223,7 +223,7 @@ public final class FilesTest {
     }
 
     private static void append() {
-        DescriptorDesk x = deskWithOne();
+        Desk x = deskWithOne();
         x.open(0, 1, 7 | 8);
         x.open(0, 1, 3);
         x.write(0, 3, 0x0102L, 2);
@@ -246,7 +246,7 @@ public final class FilesTest {
     }
 
     private static void room() {
-        DescriptorDesk x = deskWithOne();
+        Desk x = deskWithOne();
         x.open(0, 1, 3 | 8);
         fill(x, 2, 7);
         x.write(0, 2, 0, 7);
@@ -276,7 +276,7 @@ public final class FilesTest {
 
     /** Promise 13. */
     private static void unlink() {
-        DescriptorDesk x = deskWithOne();
+        Desk x = deskWithOne();
         Expect.same("missing", x.unlink(0, 1), -2);
         x.open(0, 1, 11);
         fill(x, 2, 1);
@@ -303,7 +303,7 @@ public final class FilesTest {
 
     /** Promise 14. */
     private static void rename() {
-        DescriptorDesk x = deskWithOne();
+        Desk x = deskWithOne();
         Expect.same("missing", x.rename(0, 1, 2), -2);
         Expect.same("missing, to itself", x.rename(0, 1, 1), -2);
         x.open(0, 1, 11);

@@ -7,23 +7,23 @@ public final class PipesTest {
     }
 
     /** Process 0 has a pipe: 2 reads, 3 writes. */
-    private static DescriptorDesk deskWithPipe() {
-        DescriptorDesk x = new DescriptorDesk();
+    private static Desk deskWithPipe() {
+        Desk x = new Desk();
         x.spawn();
         Expect.same("pipe", x.pipe(0), 2 + 8 * 3);
         return x;
     }
 
     /** Process 0 alone reads (2), process 1 alone writes (3). */
-    private static DescriptorDesk readerAndWriter() {
-        DescriptorDesk x = deskWithPipe();
+    private static Desk readerAndWriter() {
+        Desk x = deskWithPipe();
         x.fork(0);
         x.close(0, 3);
         x.close(1, 2);
         return x;
     }
 
-    private static void fill(DescriptorDesk x, int p, int d, int n) {
+    private static void fill(Desk x, int p, int d, int n) {
         for (int i = 0; i < n; i++) {
             Expect.same("fill", x.write(p, d, i, 1), 1);
         }
@@ -31,7 +31,7 @@ public final class PipesTest {
 
     /** Promise 6. */
     private static void pipe() {
-        DescriptorDesk x = deskWithPipe();
+        Desk x = deskWithPipe();
         Expect.same("reads", x.about(0, 2, 0), 1);
         Expect.same("writes", x.about(0, 3, 0), 2);
         Expect.same("right to read", x.about(0, 2, 4), 1);
@@ -50,7 +50,7 @@ public final class PipesTest {
     }
 
     private static void pipesEnd() {
-        DescriptorDesk x = new DescriptorDesk();
+        Desk x = new Desk();
         for (int p = 0; p < 2; p++) {
             x.spawn();
             x.pipe(p);
@@ -69,7 +69,7 @@ public final class PipesTest {
     }
 
     private static void openingsEnd() {
-        DescriptorDesk x = new DescriptorDesk();
+        Desk x = new Desk();
         for (int p = 0; p < 3; p++) {
             x.spawn();
             for (int d = 2; d < (p == 2 ? 7 : 8); d++) {
@@ -87,7 +87,7 @@ public final class PipesTest {
 
     /** Promise 7. */
     private static void read() {
-        DescriptorDesk x = deskWithPipe();
+        Desk x = deskWithPipe();
         x.write(0, 3, 0x0102030405L, 5);
         Expect.same("at most n", x.read(0, 2, 2), 2);
         Expect.same("as they came", x.given(0), 0x0102L);
@@ -116,7 +116,7 @@ public final class PipesTest {
 
     /** Promise 8. */
     private static void given() {
-        DescriptorDesk x = deskWithPipe();
+        Desk x = deskWithPipe();
         Expect.same("before", x.given(0), 0);
         x.write(0, 3, 0x00FF00L, 3);
         x.read(0, 2, 3);
@@ -137,7 +137,7 @@ public final class PipesTest {
     }
 
     private static void readWaits() {
-        DescriptorDesk x = readerAndWriter();
+        Desk x = readerAndWriter();
         Expect.same("wait", x.read(0, 2, 8), -6);
         Expect.same("n 0 wakes none", x.write(1, 3, 0, 0), 0);
         Expect.same("still waits", x.state(0, 0), 2);
@@ -153,7 +153,7 @@ public final class PipesTest {
     }
 
     private static void allAreWoken() {
-        DescriptorDesk x = readerAndWriter();
+        Desk x = readerAndWriter();
         x.fork(0);
         x.fork(0);
         x.read(0, 2, 1);
@@ -173,7 +173,7 @@ public final class PipesTest {
 
     /** Promise 9. */
     private static void write() {
-        DescriptorDesk x = deskWithPipe();
+        Desk x = deskWithPipe();
         Expect.same("the lowest n", x.write(0, 3, 0x1122334455667788L, 3), 3);
         x.read(0, 2, 8);
         Expect.same("the highest of these first", x.given(0), 0x667788L);
@@ -202,7 +202,7 @@ public final class PipesTest {
     }
 
     private static void writeWaits() {
-        DescriptorDesk x = readerAndWriter();
+        Desk x = readerAndWriter();
         x.fork(1);
         fill(x, 1, 3, 30);
         Expect.same("three have no room", x.write(1, 3, 0x0A0B0CL, 3), -6);
@@ -230,7 +230,7 @@ public final class PipesTest {
     }
 
     private static void roundAndRound() {
-        DescriptorDesk x = deskWithPipe();
+        Desk x = deskWithPipe();
         for (int i = 0; i < 100; i++) {
             x.write(0, 3, 0x010203L * (i % 80), 4);
             x.read(0, 2, 4);
@@ -240,7 +240,7 @@ public final class PipesTest {
 
     /** Promise 10. */
     private static void close() {
-        DescriptorDesk x = deskWithPipe();
+        Desk x = deskWithPipe();
         Expect.same("close", x.close(0, 0), 0);
         Expect.same("it is none", x.about(0, 0, 0), 0);
         Expect.same("the opening is held by 1", x.count(2), 3);
@@ -261,7 +261,7 @@ public final class PipesTest {
     }
 
     private static void closeWakes() {
-        DescriptorDesk x = readerAndWriter();
+        Desk x = readerAndWriter();
         x.dup(1, 3, -1);
         Expect.same("wait", x.read(0, 2, 1), -6);
         x.close(1, 3);
@@ -270,7 +270,7 @@ public final class PipesTest {
         Expect.same("none is left", x.state(0, 0), 1);
         Expect.same("the end", x.read(0, 2, 1), 0);
 
-        DescriptorDesk y = readerAndWriter();
+        Desk y = readerAndWriter();
         fill(y, 1, 3, 32);
         Expect.same("wait", y.write(1, 3, 0, 1), -6);
         Expect.same("close", y.close(0, 2), 0);
@@ -280,7 +280,7 @@ public final class PipesTest {
 
     /** Promise 11. */
     private static void dup() {
-        DescriptorDesk x = deskWithPipe();
+        Desk x = deskWithPipe();
         Expect.same("the least that is free", x.dup(0, 3, -1), 4);
         Expect.same("the same opening", x.about(0, 4, 1), 2);
         Expect.same("no new opening", x.count(2), 3);
@@ -319,7 +319,7 @@ public final class PipesTest {
     }
 
     private static void dupWakes() {
-        DescriptorDesk x = readerAndWriter();
+        Desk x = readerAndWriter();
         x.read(0, 2, 1);
         Expect.same("dup", x.dup(1, 0, 3), 3);
         Expect.same("the last that writes went", x.state(0, 0), 1);

@@ -7,7 +7,7 @@ public final class ProcessesTest {
 
     /** Promise 1. */
     private static void newObject() {
-        DescriptorDesk x = new DescriptorDesk();
+        Desk x = new Desk();
         for (int what = 0; what <= 8; what++) {
             Expect.same("new: count(" + what + ")", x.count(what), 0);
         }
@@ -22,12 +22,12 @@ public final class ProcessesTest {
         for (int name = 1; name <= 9; name++) {
             Expect.same("new: open(0, " + name + ", 1)", x.open(0, name, 1), -2);
         }
-        Expect.same("another new one has no processes", new DescriptorDesk().count(0), 0);
+        Expect.same("another new one has no processes", new Desk().count(0), 0);
     }
 
     /** Promise 2. */
     private static void spawn() {
-        DescriptorDesk x = new DescriptorDesk();
+        Desk x = new Desk();
         for (int p = 0; p < 8; p++) {
             Expect.same("spawn", x.spawn(), p);
             Expect.same("spawned is ready", x.state(p, 0), 1);
@@ -46,7 +46,7 @@ public final class ProcessesTest {
     }
 
     private static void spawnWithoutOpening() {
-        DescriptorDesk x = new DescriptorDesk();
+        Desk x = new Desk();
         for (int p = 0; p < 3; p++) {
             x.spawn();
             x.close(p, 0);
@@ -68,7 +68,7 @@ public final class ProcessesTest {
 
     /** Promise 3. */
     private static void fork() {
-        DescriptorDesk x = new DescriptorDesk();
+        Desk x = new Desk();
         x.spawn();
         x.type(65);
         x.read(0, 0, 1);
@@ -101,7 +101,7 @@ public final class ProcessesTest {
     }
 
     private static void forkOfNone() {
-        DescriptorDesk x = new DescriptorDesk();
+        Desk x = new Desk();
         Expect.state("fork of an absent one", () -> x.fork(0));
         for (int p : NO_PROCESS) {
             Expect.state("fork(" + p + ")", () -> x.fork(p));
@@ -116,7 +116,7 @@ public final class ProcessesTest {
 
     /** Promise 4. */
     private static void exit() {
-        DescriptorDesk x = new DescriptorDesk();
+        Desk x = new Desk();
         x.spawn();
         x.pipe(0);
         x.open(0, 1, 9);
@@ -147,7 +147,7 @@ public final class ProcessesTest {
     }
 
     private static void exitOfLastReader() {
-        DescriptorDesk x = new DescriptorDesk();
+        Desk x = new Desk();
         x.spawn();
         x.pipe(0);
         x.fork(0);
@@ -161,7 +161,7 @@ public final class ProcessesTest {
     }
 
     private static void beginsAnew() {
-        DescriptorDesk x = new DescriptorDesk();
+        Desk x = new Desk();
         x.spawn();
         x.type(9);
         x.read(0, 0, 1);
@@ -179,7 +179,7 @@ public final class ProcessesTest {
 
     /** Promise 17. */
     private static void state() {
-        DescriptorDesk x = new DescriptorDesk();
+        Desk x = new Desk();
         x.spawn();
         x.spawn();
         x.pipe(1);
@@ -214,7 +214,7 @@ public final class ProcessesTest {
 
     /** Terms: a call of a process that is absent or waits throws, before its other arguments are looked at. */
     private static void callsOfAbsentAndWaiting() {
-        DescriptorDesk x = new DescriptorDesk();
+        Desk x = new Desk();
         x.spawn();
         x.read(0, 0, 1);
         int[] none = {0, 1, 7, Integer.MIN_VALUE, -1, 8, Integer.MAX_VALUE};
