@@ -195,6 +195,12 @@ public final class DescriptorEdgesTest {
     private static void dupToItself() {
         Look.unchanged("the last one", 3, Scenes::pipe, x -> x.dup(0, 3, 3));
         Look.unchanged("one of two", 0, Scenes::pipe, x -> x.dup(0, 0, 0));
+        Look.unchanged("the last that reads", 2, Scenes::pipe, x -> x.dup(0, 2, 2));
+        Look.unchanged("the last of a file without a name", 2, () -> {
+            Desk x = Scenes.fileOf(3);
+            x.unlink(0, 1);
+            return x;
+        }, x -> x.dup(0, 2, 2));
         Look.unchanged("when none is free", 7, Scenes::noDescriptorFree, x -> x.dup(0, 7, 7));
         Look.unchanged("to one of the same opening", 1, Scenes::pipe, x -> x.dup(0, 0, 1));
     }

@@ -20,7 +20,7 @@ final class Look {
     private static final int CALLS_A_READ = 8;
 
     private static final Part[] BUT_WAITING = {Look::counts, Look::descriptors};
-    private static final Part[] ALL = {Look::waiting, Look::counts, Look::descriptors, Look::contents, Look::names};
+    private static final Part[] ALL = {Look::waiting, Look::counts, Look::descriptors, Look::contents, Look::ends, Look::names};
 
     private Look() {
     }
@@ -138,6 +138,26 @@ final class Look {
             got = x.read(p, d, 8);
             text.append(' ').append(got).append(' ').append(x.given(p));
         }
+    }
+
+    /** Whether a pipe is broken, and whether more is to come out of it. */
+    private static String ends(Desk x) {
+        StringBuilder text = new StringBuilder("ends");
+        for (int p = 0; p < 8; p++) {
+            for (int d = 0; x.state(p, 0) == 1 && d < 8; d++) {
+                if (x.about(p, d, 0) == 2) {
+                    text.append(" | ").append(p).append(' ').append(d).append(": ").append(x.write(p, d, 0, 0));
+                }
+            }
+        }
+        for (int p = 0; p < 8; p++) {
+            for (int d = 0; x.state(p, 0) == 1 && d < 8; d++) {
+                if (x.about(p, d, 0) == 1 && x.about(p, d, 2) == 0) {
+                    text.append(" | ").append(p).append(' ').append(d).append(": ").append(x.read(p, d, 1));
+                }
+            }
+        }
+        return text.toString();
     }
 
     /** Which names there are, and what is in their files. */
